@@ -187,7 +187,8 @@ public final class CrystalHouse {
     /** The number of the group that stands in the closure, which is an old one if it is equal to it. */
     private int keepGroup() {
         for (int i = 0; i < groupCount; i++) {
-            if (groups[i].ops.sameAs(closure.ops)) {
+            Group old = groups[i];
+            if (old != null && old.ops.sameAs(closure.ops)) {
                 return i;
             }
         }
@@ -325,7 +326,7 @@ public final class CrystalHouse {
         return inverses;
     }
 
-    /** Done again and again, an operation of a group is its own inverse just ahead of the one that leaves all. */
+    /** The last power of an operation ahead of the one that leaves all. */
     private int inverseOf(int code) {
         int last = SAME;
         int now = code;
@@ -346,28 +347,34 @@ public final class CrystalHouse {
         return times;
     }
 
+    private int countHalves(Group g) {
+        sidesOf(g);
+        return (1 << g.sideBits) - 1;
+    }
+
     /**
      * Every half holds all squares, and what the squares make. Beyond these, the first operation that is not
      * bound by those ahead of it may be in a half or not: it gets a bit, the earlier the higher, and sides tells
      * of which of such operations each one is a product. So the halves are in their order by the sets of bits
      * that they leave out.
      */
-    private int countHalves(Group g) {
-        if (g.sides == null) {
-            int[] sides = new int[g.ops.count];
-            Arrays.fill(sides, NONE);
-            int held = beginWithSquares(g, sides);
-            int bits = 0;
-            for (int i = 0; i < g.ops.count; i++) {
-                if (sides[i] == NONE) {
-                    held = spread(g, sides, i, held);
-                    bits++;
-                }
-            }
-            g.sides = sides;
-            g.sideBits = bits;
+    private int[] sidesOf(Group g) {
+        if (g.sides != null) {
+            return g.sides;
         }
-        return (1 << g.sideBits) - 1;
+        int[] sides = new int[g.ops.count];
+        Arrays.fill(sides, NONE);
+        int held = beginWithSquares(g, sides);
+        int bits = 0;
+        for (int i = 0; i < g.ops.count; i++) {
+            if (sides[i] == NONE) {
+                held = spread(g, sides, i, held);
+                bits++;
+            }
+        }
+        g.sides = sides;
+        g.sideBits = bits;
+        return sides;
     }
 
     /** Queues all that the squares make: how many. */
@@ -439,9 +446,10 @@ public final class CrystalHouse {
             return NONE;
         }
         int leftOut = k + 1;
+        int[] sides = sidesOf(g);
         closure.begin();
-        for (int i = 0; i < g.ops.count; i++) {
-            if (Integer.bitCount(g.sides[i] & leftOut) % 2 == 0) {
+        for (int i = 0; i < g.ops.count && i < sides.length; i++) {
+            if (Integer.bitCount(sides[i] & leftOut) % 2 == 0) {
                 closure.take(g.ops.at[i]);
             }
         }
@@ -609,7 +617,11 @@ public final class CrystalHouse {
         if (at == null || n < 1 || n > MOST_TIMES || what < 0 || what > 5) {
             return 0;
         }
-        return k < 0 || k >= at.countMultiples(n) ? 0 : at.rows[n][6 * k + what];
+        if (k < 0 || k >= at.countMultiples(n)) {
+            return 0;
+        }
+        long[] row = at.rows[n];
+        return row == null ? 0 : row[6 * k + what];
     }
 
     // ---- models ----
@@ -697,11 +709,13 @@ public final class CrystalHouse {
         if (at == null || m < 1 || m > MOST_WITHIN) {
             return null;
         }
-        if (at.spectra[m] == null) {
-            at.spectra[m] = new Lines(m);
+        Lines within = at.spectra[m];
+        if (within == null) {
+            within = new Lines(m);
+            at.spectra[m] = within;
         }
-        at.spectra[m].renew(at, waves);
-        return at.spectra[m];
+        within.renew(at, waves);
+        return within;
     }
 
     public long map(int model, int place) {
@@ -1341,7 +1355,9 @@ public final class CrystalHouse {
         }
 
         void alignSigns() {
-            long sign = x * y * z > 0 ? 1 : -1;
+            // Not by the product itself: with MULTIPLES it may be more than a long holds.
+            boolean negative = (x < 0) ^ (y < 0) ^ (z < 0);
+            long sign = x == 0 || y == 0 || z == 0 || negative ? -1 : 1;
             x = sign * Math.abs(x);
             y = sign * Math.abs(y);
             z = sign * Math.abs(z);
@@ -1430,20 +1446,24 @@ public final class CrystalHouse {
                 return 0;
             }
             if (rows[n] == null) {
-                rows[n] = new long[6 * LATTICES[n]];
+                long[] row = new long[6 * LATTICES[n]];
+                int count = 0;
                 for (int p = 1; p <= n; p++) {
                     for (int r = 1; p * r <= n; r++) {
                         if (n % (p * r) == 0) {
-                            gatherMultiples(n, p, r);
+                            count = gatherMultiples(row, count, p, r, n / (p * r));
                         }
                     }
                 }
+                rows[n] = row;
+                counts[n] = count;
             }
             return counts[n];
         }
 
-        void gatherMultiples(int n, int p, int r) {
-            int u = n / Math.max(p * r, 1);
+        /** Puts the multiples of three divisors into a row: how many it has then. */
+        int gatherMultiples(long[] row, int count, int p, int r, int u) {
+            int now = count;
             for (int q = 0; q < p; q++) {
                 for (int s = 0; s < p; s++) {
                     for (int t = 0; t < r; t++) {
@@ -1451,31 +1471,31 @@ public final class CrystalHouse {
                             told.twice(q, r, 0, s, t, u), told.twice(p, 0, 0, s, t, u),
                             told.twice(p, 0, 0, q, r, 0));
                         made.reduce();
-                        putMade(n);
+                        now = putMade(row, now);
                     }
                 }
             }
+            return now;
         }
 
-        void putMade(int n) {
-            long[] row = rows[n];
-            int seat = seatOfMade(n);
-            if (seat < counts[n] && compareMade(row, seat) == 0 || 6 * counts[n] + 6 > row.length) {
-                return;
+        int putMade(long[] row, int count) {
+            int seat = seatOfMade(row, count);
+            if (seat < count && compareMade(row, seat) == 0 || 6 * count + 6 > row.length) {
+                return count;
             }
-            System.arraycopy(row, 6 * seat, row, 6 * seat + 6, 6 * (counts[n] - seat));
+            System.arraycopy(row, 6 * seat, row, 6 * seat + 6, 6 * (count - seat));
             for (int what = 0; what < 6; what++) {
                 row[6 * seat + what] = made.number(what);
             }
-            counts[n]++;
+            return count + 1;
         }
 
-        int seatOfMade(int n) {
+        int seatOfMade(long[] row, int count) {
             int below = 0;
-            int over = counts[n];
+            int over = count;
             for (int i = 0; i < 32 && below < over; i++) {
                 int middle = (below + over) >>> 1;
-                if (compareMade(rows[n], middle) > 0) {
+                if (compareMade(row, middle) > 0) {
                     below = middle + 1;
                 } else {
                     over = middle;
@@ -1720,14 +1740,21 @@ public final class CrystalHouse {
                 }
                 System.arraycopy(order, seat, order, seat + 1, count - seat);
                 order[seat] = count;
-                Arrays.fill(rows, 6 * count, 6 * count + 6, 0);
-                rows[6 * count] = q;
+                startRow(6 * count, q);
                 count++;
             }
             int row = 6 * order[seat];
             rows[row + 1] += 2;
             for (int k = 0; k < 4; k++) {
                 rows[row + 2 + k] += 2 * power[k];
+            }
+        }
+
+        /** What stood there may be of lines that were gathered before. */
+        void startRow(int row, long q) {
+            rows[row] = q;
+            for (int k = 1; k < 6; k++) {
+                rows[row + k] = 0;
             }
         }
 
