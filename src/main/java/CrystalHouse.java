@@ -29,9 +29,10 @@ public final class CrystalHouse {
     // Each maker of a group at least doubles it, so eight of them are already beyond 192.
     private static final int MOST_MAKERS = 8;
 
-    // How many parts of 27 neighbouring cells, or columns of -1, 0, 1, there are.
+    // So many are three numbers, each -1, 0 or 1; the middle one of them is 0 0 0.
     private static final int AROUND = 27;
 
+    // SHIFTS by which CENTRINGS have their LETTERS.
     private static final int CENTRED_A = 300;
     private static final int CENTRED_B = 6924;
     private static final int CENTRED_C = 7200;
@@ -1675,8 +1676,9 @@ public final class CrystalHouse {
             power[3] += 2 * n[0] * n[3] + 2 * n[1] * n[2];
         }
 
+        /** The first number of the power is made of the squares of all numbers of the wave. */
         boolean isZero() {
-            return power[0] == 0 && power[1] == 0 && power[2] == 0 && power[3] == 0;
+            return power[0] == 0;
         }
     }
 

@@ -39,6 +39,8 @@ public final class CellsTest {
         }
         DUE.is("cell beyond 40", house.cell(1, 1, 1, 0, 0, 0), NONE);
         DUE.is("reduced(39, 2)", house.reduced(39, 2), 39);
+        DUE.is("reduced(40, 2)", house.reduced(40, 2), 0);
+        DUE.is("multiples(40, 2)", house.multiples(40, 2), NONE);
     }
 
     private static void reducedOf(int[] told, int... due) {
@@ -63,6 +65,7 @@ public final class CellsTest {
         reducedOf(new int[] {3, 3, 3, 1, 1, -1}, 3, 3, 3, -1, -1, -1);
         reducedOf(new int[] {1, 1, 10000, 0, 99, 0}, 1, 1, 199, 0, 0, 0);
         reducedOf(new int[] {1, 10000, 10000, 50, 0, 99}, 1, 199, 10000, -50, 0, 0);
+        reducedByEqualities();
         CrystalHouse house = new CrystalHouse();
         house.cell(4, 9, 16, 1, 2, 3);
         DUE.is("the determinant", house.reduced(0, 7), 4 * 9 * 16 + 2 * 1 * 2 * 3 - 4 * 1 - 9 * 4 - 16 * 9);
@@ -70,6 +73,25 @@ public final class CellsTest {
         DUE.is("what -1", house.reduced(0, -1), 0);
         DUE.is("no cell", house.reduced(1, 0), 0);
         DUE.is("cell -1", house.reduced(-1, 0), 0);
+    }
+
+    /** Where a step's first condition doesn't hold, but one with an equality does, or just doesn't. */
+    private static void reducedByEqualities() {
+        reducedOf(new int[] {10, 12, 20, 6, 1, 3}, 10, 12, 20, 6, 2, 3);
+        reducedOf(new int[] {10, 12, 20, 6, 2, 4}, 10, 12, 20, 6, 2, 4);
+        reducedOf(new int[] {10, 12, 20, -6, -1, -2}, 10, 12, 20, 6, 3, 2);
+        reducedOf(new int[] {10, 12, 20, -6, -1, 0}, 10, 12, 20, -6, -1, 0);
+        reducedOf(new int[] {10, 12, 20, 1, 5, 3}, 10, 12, 20, 2, 5, 3);
+        reducedOf(new int[] {10, 12, 20, 2, 5, 4}, 10, 12, 20, 2, 5, 4);
+        reducedOf(new int[] {10, 12, 20, -1, -5, -2}, 10, 12, 20, 3, 5, 2);
+        reducedOf(new int[] {10, 12, 20, -1, -5, 0}, 10, 12, 20, -1, -5, 0);
+        reducedOf(new int[] {10, 12, 20, 1, 3, 5}, 10, 12, 20, 2, 3, 5);
+        reducedOf(new int[] {10, 12, 20, 2, 4, 5}, 10, 12, 20, 2, 4, 5);
+        reducedOf(new int[] {10, 12, 20, -1, -2, -5}, 10, 12, 20, 3, 2, 5);
+        reducedOf(new int[] {10, 12, 20, -1, 0, -5}, 10, 12, 20, -1, 0, -5);
+        reducedOf(new int[] {10, 10, 20, -4, -4, -4}, 10, 10, 16, -2, -2, -4);
+        reducedOf(new int[] {10, 12, 20, -5, -3, -3}, 10, 12, 20, -4, -4, -3);
+        reducedOf(new int[] {10, 12, 20, -4, -4, -3}, 10, 12, 20, -4, -4, -3);
     }
 
     /** Whatever edges a lattice is told by, it is reduced to the same six numbers. */
@@ -165,6 +187,8 @@ public final class CellsTest {
         for (int n = 1; n <= 3; n++) {
             DUE.is("multiples of a cube by " + n, house.multiples(cubic, n), ofCube[n - 1]);
         }
+        DUE.is("behind the last", house.multiple(triclinic, 12, 455, 0), 0);
+        DUE.is("the last", house.multiple(triclinic, 12, 454, 0) > 0, true);
         DUE.is("by 0", house.multiples(cubic, 0), NONE);
         DUE.is("by 13", house.multiples(cubic, 13), NONE);
         DUE.is("by -1", house.multiples(cubic, -1), NONE);

@@ -136,6 +136,7 @@ public final class GroupsTest {
             DUE.is("about the class of letter " + i, house.about(alone, 4), 1);
         }
         String[][] others = {{"x+1/2,y,z"}, {"x,y,z+1/4"}, {"x+1/3,y,z"}, {"x+1/2,y,z", "x,y+1/2,z"},
+            {"x,y+1/2,z", "x,y,z+1/2"}, {"x+1/2,y,z", "x,y,z+1/2"}, {"x+1/2,y,z", "x,y+1/2,z+1/2"},
             {"x+1/2,y,z", "x,y+1/2,z", "x,y,z+1/2"}, {"x+1/3,y+1/3,z+1/3"}, {"x+1/2,y+1/2,z", "x,y,z+1/2"}};
         for (String[] other : others) {
             CrystalHouse house = new CrystalHouse();
@@ -410,6 +411,9 @@ public final class GroupsTest {
         DUE.is("h 0 l is fixed", house.wave(p21, 1, 0, 3, 2), 0);
         DUE.is("star of h k l with opposites", house.wave(p21, 1, 2, 3, 1), 4);
         DUE.is("star of h 0 l", house.wave(p21, 1, 0, 3, 1), 2);
+        int along = Due.group(house, "-x,-y+1/6,-z");
+        DUE.is("the turn of 0 1 0", house.wave(along, 0, 1, 0, 2), 4);
+        DUE.is("the turn of 0 -1 0", house.wave(along, 0, -1, 0, 2), 20);
         int moved = Due.group(house, "-x+1/4,-y,-z+5/24");
         DUE.is("the turn of a moved -1", house.wave(moved, 1, 0, 0, 2), 6);
         DUE.is("the turn of h -1 0 0", house.wave(moved, -1, 0, 0, 2), 18);

@@ -202,6 +202,11 @@ public final class ModelsTest {
         DUE.is("distance(-1, 0)", house.distance(0, -1, 0), 0);
         DUE.is("distance(0, -1)", house.distance(0, 0, -1), 0);
         DUE.is("no model", house.distance(1, 0, 0), 0);
+        house.atom(0, 1, 13823);
+        house.atom(0, 1, Due.place(1, 23, 1));
+        DUE.is("the nearest is in the cell behind all edges", house.distance(0, 0, 3), 29);
+        DUE.is("the nearest is in the cell ahead of all edges", house.distance(0, 3, 0), 29);
+        DUE.is("the nearest is in a mixed cell", house.distance(0, 3, 4), 4 * (4 + 16));
         // The six as they were told count, and only the cells beside: this one is very slanted.
         CrystalHouse slanted = house(new int[] {1, 10, 10, 0, 0, 3}, "x,y,z");
         slanted.atom(0, 1, 0);

@@ -147,6 +147,9 @@ public final class OperationsTest {
         DUE.is("operation() beyond 40", house.operation(16484, 0), NONE);
         DUE.is("choose(39)", house.choose(39), true);
         DUE.is("choose(40)", house.choose(40), false);
+        DUE.is("tell(39)", house.tell(39), 5);
+        DUE.is("tell(40)", house.tell(40), NONE);
+        DUE.is("group() with 40 told", house.group(), 0);
     }
 
     private static void faults() {
@@ -252,6 +255,9 @@ public final class OperationsTest {
         DUE.is("operation(19683, 0)", house.operation(19683, 0), NONE);
         DUE.is("operation(16484, -1)", house.operation(16484, -1), NONE);
         DUE.is("operation(16484, 13824)", house.operation(16484, 13824), NONE);
+        DUE.is("operation of a tenth digit", house.operation(19683 + 16484, 0), NONE);
+        DUE.is("operation below 0", house.operation(16484 - 19683, 0), NONE);
+        DUE.is("operation of a fourth digit", house.operation(16484, 13824 + 5), NONE);
         DUE.is("operation of a determinant 0", house.operation(19682, 0), NONE);
         DUE.is("operation of a determinant 2", house.operation(Integer.parseInt("221021102", 3), 0), NONE);
         DUE.is("operation of the greatest", house.operation(Integer.MAX_VALUE, Integer.MAX_VALUE), NONE);
