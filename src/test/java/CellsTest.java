@@ -216,11 +216,13 @@ public final class CellsTest {
         DUE.is("multiple(-1, 2, 0, 0)", house.multiple(-1, 2, 0, 0), 0);
         DUE.is("multiple(0, 1, 0, 0)", house.multiple(0, 1, 0, 0), 1);
         // The edges are so long that X Y Z of a multiple is beyond a long.
-        house.cell(10000, 10000, 10000, 0, 0, 0);
-        DUE.is("multiples of a long cube", house.multiples(1, 12), house.multiples(0, 12));
-        for (int k = 0; k < house.multiples(0, 12); k++) {
+        int count = house.multiples(0, 12);
+        CrystalHouse great = new CrystalHouse();
+        great.cell(10000, 10000, 10000, 0, 0, 0);
+        DUE.is("multiples of a long cube", great.multiples(0, 12), count);
+        for (int k = 0; k < count; k++) {
             for (int what = 0; what < 6; what++) {
-                DUE.is("multiple of a long cube", house.multiple(1, 12, k, what), 10000 * house.multiple(0, 12, k, what));
+                DUE.is("multiple of a long cube", great.multiple(0, 12, k, what), 10000 * house.multiple(0, 12, k, what));
             }
         }
     }

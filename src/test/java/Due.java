@@ -1,20 +1,25 @@
 import java.nio.charset.StandardCharsets;
 
-/** What is due, held against what was answered. */
+/** What is due, held against what was answered. No house is asked more than 512 times: beyond that nothing is promised. */
 final class Due {
     static final int NONE = CrystalHouse.NONE;
 
     private int wrong = 0;
-    private int promise = 0;
+    private String where = "";
 
     void promise(int number) {
-        promise = number;
+        where = "promise " + number;
+    }
+
+    /** What follows holds the class to these words of the document; SentencesTest sees to it that they stand there. */
+    void sentence(String words) {
+        where = "'" + words + "'";
     }
 
     void is(String call, long got, long want) {
         if (got != want) {
             wrong++;
-            System.out.println("promise " + promise + ": " + call + " answered " + got + ", due is " + want);
+            System.out.println(where + ": " + call + " answered " + got + ", due is " + want);
         }
     }
 
@@ -25,7 +30,7 @@ final class Due {
     void is(String call, String got, String want) {
         if (!got.equals(want)) {
             wrong++;
-            System.out.println("promise " + promise + ": " + call + " answered " + got + ", due is " + want);
+            System.out.println(where + ": " + call + " answered " + got + ", due is " + want);
         }
     }
 
@@ -69,8 +74,10 @@ final class Due {
 
     static String out(CrystalHouse house) {
         StringBuilder out = new StringBuilder();
-        for (int i = 0; house.letter(i) != NONE; i++) {
-            out.append((char) house.letter(i));
+        int letter = house.letter(0);
+        for (int i = 1; letter != NONE; i++) {
+            out.append((char) letter);
+            letter = house.letter(i);
         }
         return out.toString();
     }
@@ -81,7 +88,42 @@ final class Due {
         return length == NONE || length == out.length() ? out : "not as long as told: " + out;
     }
 
+    /** The number of an operation in the group of what texts tell; it is looked for in a house of its own. */
+    static int find(String text, String... makers) {
+        CrystalHouse house = houseOf(makers);
+        for (int k = 0; k < house.about(0, 0); k++) {
+            house.tellOf(0, k);
+            if (out(house).equals(text)) {
+                return k;
+            }
+        }
+        return NONE;
+    }
+
     static int place(int x, int y, int z) {
         return (x * 24 + y) * 24 + z;
+    }
+
+    /** Numbers just beyond two ends, far beyond them, and such as would be within if high bits were lost. */
+    static int[] beyond(int low, int high) {
+        int[] all = {low - 1, high + 1, Integer.MIN_VALUE, Integer.MAX_VALUE, low + (1 << 16), low - (1 << 16),
+            low + (1 << 24), high + (1 << 30), low + Integer.MIN_VALUE, low - (1 << 30)};
+        int[] more = new int[all.length + 2];
+        System.arraycopy(all, 0, more, 0, all.length);
+        more[all.length] = high < low + 255 ? low + 256 : high + 2;
+        more[all.length + 1] = high < low + 255 ? low - 256 : low - 2;
+        return more;
+    }
+
+    /** Numbers at which there is nothing, if there are so many things from 0 on. */
+    static int[] noneOf(int count) {
+        return beyond(0, count - 1);
+    }
+
+    /** A house with one group, told by texts; its number is 0. */
+    static CrystalHouse houseOf(String... texts) {
+        CrystalHouse house = new CrystalHouse();
+        group(house, texts);
+        return house;
     }
 }

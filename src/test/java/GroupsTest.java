@@ -251,26 +251,16 @@ public final class GroupsTest {
         DUE.is("product(0, 0, -1)", house.product(p21c, 0, -1), NONE);
         DUE.is("product(1, 0, 0)", house.product(1, 0, 0), NONE);
         // The second of a product is done first: -y,x,z of x,-y,-z is y,x,-z, the other way it is -y,-x,-z.
-        int p422 = Due.group(house, "-y,x,z", "x,-y,-z");
-        int quarter = find(house, p422, "-y,x,z");
-        int turn = find(house, p422, "x,-y,-z");
-        DUE.is("product of a quarter and a turn", house.product(p422, quarter, turn), find(house, p422, "y,x,-z"));
-        DUE.is("product of a turn and a quarter", house.product(p422, turn, quarter), find(house, p422, "-y,-x,-z"));
-        int moved = Due.group(house, "-x+1/2,-y,-z", "x+1/4,y,z");
-        int point = find(house, moved, "-x+1/2,-y,-z");
-        int shift = find(house, moved, "x+1/4,y,z");
-        DUE.is("product of a point and a shift", house.product(moved, point, shift), find(house, moved, "-x+1/4,-y,-z"));
-        DUE.is("product of a shift and a point", house.product(moved, shift, point), find(house, moved, "-x+3/4,-y,-z"));
+        productIs("-y,x,z", "x,-y,-z", "y,x,-z");
+        productIs("x,-y,-z", "-y,x,z", "-y,-x,-z");
+        productIs("-x+1/2,-y,-z", "x+1/4,y,z", "-x+1/4,-y,-z");
+        productIs("x+1/4,y,z", "-x+1/2,-y,-z", "-x+3/4,-y,-z");
     }
 
-    private static int find(CrystalHouse house, int group, String text) {
-        for (int k = 0; k < house.about(group, 0); k++) {
-            house.tellOf(group, k);
-            if (Due.out(house).equals(text)) {
-                return k;
-            }
-        }
-        return NONE;
+    private static void productIs(String p, String q, String due) {
+        CrystalHouse house = Due.houseOf(p, q);
+        int product = house.product(0, Due.find(p, p, q), Due.find(q, p, q));
+        DUE.is("the product of " + p + " and " + q, product, Due.find(due, p, q));
     }
 
     private static void half() {
@@ -311,9 +301,9 @@ public final class GroupsTest {
             DUE.is("about a half", house.about(half, 0), 32);
             DUE.is("within", house.within(half, many), true);
         }
-        CrystalHouse other = new CrystalHouse();
-        Due.group(other, "-x,-y,z", "x,-y,-z", "-x,-y,-z", "x+1/2,y,z", "x,y+1/2,z", "x,y,z+1/2");
         for (int k = 0; k < 10; k++) {
+            CrystalHouse other = new CrystalHouse();
+            Due.group(other, "-x,-y,z", "x,-y,-z", "-x,-y,-z", "x+1/2,y,z", "x,y+1/2,z", "x,y,z+1/2");
             StringBuilder held = new StringBuilder();
             int half = other.half(0, k);
             for (int i = 0, at = 0; i < 64; i++) {

@@ -164,11 +164,11 @@ public final class ModelsTest {
     private static void amplitudeAgainstDoubles() {
         DUE.promise(27);
         Numbers numbers = new Numbers(11);
-        CrystalHouse house = house(new int[] {4, 4, 4, 0, 0, 0}, "z,x,y", "-x,-y,z");
-        for (int i = 0; i < 5; i++) {
-            house.atom(0, numbers.from(1, 50), numbers.below(13824));
-        }
         for (int turn = 0; turn < 30; turn++) {
+            CrystalHouse house = house(new int[] {4, 4, 4, 0, 0, 0}, "z,x,y", "-x,-y,z");
+            for (int i = 0; i < 5; i++) {
+                house.atom(0, numbers.from(1, 50), numbers.below(13824));
+            }
             int h = numbers.from(-60, 60);
             int k = numbers.from(-60, 60);
             int l = numbers.from(-60, 60);

@@ -279,14 +279,12 @@ public final class OperationsTest {
         Due.read(house, "x,y,z");
         DUE.is("tell(1)", house.tell(1), 5);
         DUE.is("OUT", Due.out(house), "x,y,z");
-        for (int shift = 0; shift < 24; shift++) {
-            house.operation(16484, shift);
-        }
         String[] shifts = {"", "+1/24", "+1/12", "+1/8", "+1/6", "+5/24", "+1/4", "+7/24", "+1/3", "+3/8", "+5/12",
             "+11/24", "+1/2", "+13/24", "+7/12", "+5/8", "+2/3", "+17/24", "+3/4", "+19/24", "+5/6", "+7/8", "+11/12",
             "+23/24"};
         for (int shift = 0; shift < 24; shift++) {
-            DUE.is("tell of a shift", Due.told(house, 2 + shift), "x,y,z" + shifts[shift]);
+            CrystalHouse moved = new CrystalHouse();
+            DUE.is("tell of a shift", Due.told(moved, moved.operation(16484, shift)), "x,y,z" + shifts[shift]);
         }
     }
 
