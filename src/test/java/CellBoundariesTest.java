@@ -147,6 +147,8 @@ public final class CellBoundariesTest {
         reduces(10, 10, 20, 3, 1, 2, 10, 10, 20, 1, 3, 2);
         reduces(10, 10, 20, -3, -1, -2, 10, 10, 20, -1, -3, -2);
         reduces(10, 10, 20, 1, 3, 2, 10, 10, 20, 1, 3, 2);
+        reduces(10, 10, 20, -1, -3, -2, 10, 10, 20, -1, -3, -2);
+        reduces(10, 10, 20, -1, -3, 2, 10, 10, 20, 1, 3, 2);
         reduces(10, 10, 20, 2, 2, 1, 10, 10, 20, 2, 2, 1);
         reduces(9, 4, 16, 1, -1, 1, 4, 9, 16, -1, -1, -1);
     }
@@ -160,6 +162,8 @@ public final class CellBoundariesTest {
         reduces(10, 12, 12, 1, 3, 2, 10, 12, 12, 1, 2, 3);
         reduces(10, 12, 12, -1, -3, -2, 10, 12, 12, -1, -2, -3);
         reduces(10, 12, 12, 1, 2, 3, 10, 12, 12, 1, 2, 3);
+        reduces(10, 12, 12, -1, -2, -3, 10, 12, 12, -1, -2, -3);
+        reduces(10, 12, 12, 1, -2, -3, 10, 12, 12, 1, 2, 3);
         reduces(10, 10, 10, 3, 2, 1, 10, 10, 10, 1, 2, 3);
         reduces(10, 10, 10, 2, 1, 3, 10, 10, 10, 1, 2, 3);
         reduces(10, 10, 10, -3, -2, -1, 10, 10, 10, -1, -2, -3);
@@ -276,6 +280,41 @@ public final class CellBoundariesTest {
         fit(false, "y,x,-z", 10, 10, 12, 3, 3, 1);
         fit(true, "-y,x,z+1/4", 10000, 10000, 9999, 0, 0, 0);
         fit(false, "-y,x,z+1/4", 10000, 9999, 9999, 0, 0, 0);
+        keepersOfAllMatrices();
+    }
+
+    /** Cells with much symmetry, told by edges of which some are sums of others. */
+    private static final int[][] SYMMETRIC = {
+        {10, 10, 10, 0, 0, 0}, {10, 10, 10, 5, 5, 5}, {3, 3, 3, -1, -1, -1}, {10, 10, 7, 0, 0, -5}, {7, 10, 10, -5, 0, 0},
+        {10, 7, 10, 0, 5, 0}, {10, 10, 20, -5, -5, 0}, {10, 10, 10, 2, 2, 2}, {10, 20, 30, -10, 0, 0}, {10, 20, 20, 10, 5, 5},
+        {4, 4, 6, -2, -2, 0}, {1, 2, 3, 1, 0, 1}, {2, 2, 2, 0, 1, 1}, {3, 3, 4, 2, 2, 1}, {6, 6, 6, -2, -1, -3}, {10, 12, 20, -5, -4, -2},
+        {4, 6, 8, 2, 2, 2}, {4, 6, 8, 3, 2, 2}, {9, 9, 12, 0, -3, -3}
+    };
+
+    private static boolean keeps(int nine, long[] six) {
+        long[][] edges = new long[3][3];
+        for (int i = 8, rest = nine; i >= 0; i--, rest /= 3) {
+            edges[i % 3][i / 3] = rest % 3 - 1;
+        }
+        return Arrays.equals(Oracle.made(six, edges[0], edges[1], edges[2]), six);
+    }
+
+    private static long[] asLongs(int... six) {
+        return Arrays.stream(six).asLongStream().toArray();
+    }
+
+    private static void keepersOfAllMatrices() {
+        for (int nine = 0; nine < 19683; nine++) {
+            CrystalHouse house = new CrystalHouse();
+            int operation = house.operation(nine, 0);
+            if (operation == NONE || !house.choose(operation) || house.group() == NONE) {
+                continue;
+            }
+            for (int i = 0; i < SYMMETRIC.length; i++) {
+                cell(house, SYMMETRIC[i]);
+                DUE.is("matrix " + nine + " keeps " + Arrays.toString(SYMMETRIC[i]), house.fits(0, i), keeps(nine, asLongs(SYMMETRIC[i])));
+            }
+        }
     }
 
     private static void symmetry(int due, int... six) {
@@ -301,6 +340,17 @@ public final class CellBoundariesTest {
         symmetry(16, 1, 1, 10000, 0, 99, 0);
         symmetry(24, 10, 10, 33, 0, 0, 5);
         symmetry(16, 9, 7, 7, 0, 0, 0);
+        for (int[] six : SYMMETRIC) {
+            long[] low = new long[6];
+            for (int what = 0; what < 6; what++) {
+                low[what] = houseOf(six).reduced(0, what);
+            }
+            int due = 0;
+            for (int nine = 0; nine < 19683; nine++) {
+                due += keeps(nine, low) ? 1 : 0;
+            }
+            symmetry(due, six);
+        }
     }
 
     private static void fitsAsTold() {
@@ -379,6 +429,10 @@ public final class CellBoundariesTest {
                 }
             }
         }
+        // Of these two, F alone is different.
+        CrystalHouse close = houseOf(2, 11, 9, 2, -1, -2);
+        DUE.is("multiple 78 by 8", Arrays.toString(six(close, 8, 78)), "[16, 24, 32, 12, 4, 1]");
+        DUE.is("multiple 79 by 8", Arrays.toString(six(close, 8, 79)), "[16, 24, 32, 12, 4, 2]");
         CrystalHouse cube = houseOf(1, 1, 1, 0, 0, 0);
         int[] due = {1, 3, 3, 9, 5, 13, 7, 24};
         for (int n = 1; n <= 8; n++) {

@@ -326,6 +326,17 @@ public final class GroupBoundariesTest {
         alikeOnes(4, "-x,-y,-z", "x+1/2,y,z");
         alikeOnes(4, "-y,x,z+1/4");
         alikeOnes(15, "-x,-y,-z", "x+1/24,y,z");
+        // Of one house, one after another.
+        CrystalHouse house = new CrystalHouse();
+        int[] due = new int[32];
+        for (int i = 0; i < 32; i++) {
+            due[i] = Due.houseOf(CLASSES[i]).about(0, 5);
+        }
+        for (int i = 31; i >= 0; i -= 3) {
+            int group = Due.group(house, CLASSES[i]);
+            DUE.is("alike ones of class " + (i + 1) + " in one house", house.about(group, 5), due[i]);
+            DUE.is("alike ones of class " + (i + 1) + ", again", house.about(group, 5), due[i]);
+        }
     }
 
     /** All sets of half as many, closed under products, as rows of a and b: a for one that is in it; in their order. */
@@ -398,6 +409,14 @@ public final class GroupBoundariesTest {
         halvesAre("-y,x-y,z", "y,x,-z");
         halvesAre("x+1/2,y,z", "x,y+1/2,z", "x,y,z+1/2");
         halvesAre("x+1/4,y,z", "x,y+1/2,z");
+        // Of one house, one after another.
+        CrystalHouse house = new CrystalHouse();
+        int[] due = {0, 1, 1, 1, 3, 3, 3, 7, 1, 1, 3, 3, 3, 3, 7, 0, 1, 1, 1, 3, 1, 1, 3, 3, 3, 3, 7, 0, 1, 1, 1, 3};
+        for (int i = 31; i >= 0; i -= 3) {
+            int group = Due.group(house, CLASSES[i]);
+            DUE.is("halves of class " + (i + 1) + " in one house", house.about(group, 6), due[i]);
+            DUE.is("halves of class " + (i + 1) + ", again", house.about(group, 6), due[i]);
+        }
     }
 
     private static void halvesOf16() {

@@ -28,6 +28,7 @@ public final class ModelBoundariesTest {
         linesOfPowers();
         qOfLines();
         oneLineForEachQ();
+        linesOfNewAtoms();
         mapModulo();
         modelNumber();
         modelRefused();
@@ -263,6 +264,7 @@ public final class ModelBoundariesTest {
             }
             DUE.is("the cosines", Math.abs(exact(house, h, 0) - cosines) < 1e-6, true);
             DUE.is("the sines", Math.abs(exact(house, h, 4) - sines) < 1e-6, true);
+            DUE.is("the power", Math.abs(exact(house, h, 8) - cosines * cosines - sines * sines) < 1e-4, true);
         }
         waveIs(house, new int[] {0, 0, 0}, 28, 0, 0, 0, 0, 0, 0, 0);
         waveIs(house, new int[] {24, -48, 0}, 28, 0, 0, 0, 0, 0, 0, 0);
@@ -279,6 +281,22 @@ public final class ModelBoundariesTest {
         waveIs(two, new int[] {3, 0, 0}, 4, 6, 0, 0, 0, 6, 0, 0, 160, 48, 0, 0);
         waveIs(two, new int[] {4, 0, 0}, 10, 0, 0, 0, 0, 0, 6, 0, 208, 0, 0, 0);
         waveIs(two, new int[] {12, 0, 0}, -8, 0, 0, 0, 0, 0, 0, 0, 64, 0, 0, 0);
+        // (4 3 + 7 (6' + 2') + 11 2 3' + 13 2 2') and (7 (6' - 2') + 11 2 + 13 2 2'), each with all four of its numbers.
+        CrystalHouse four = houseOf(BRICK);
+        four.atom(0, 3, 0);
+        four.atom(0, 7, Due.place(1, 0, 0));
+        four.atom(0, 11, Due.place(2, 0, 0));
+        four.atom(0, 13, Due.place(3, 0, 0));
+        long[] c = {12, 33, 22, 7};
+        long[] s = {22, 19, 0, 7};
+        long[] power = new long[4];
+        for (long[] n : new long[][] {c, s}) {
+            power[0] += n[0] * n[0] + 2 * n[1] * n[1] + 3 * n[2] * n[2] + 6 * n[3] * n[3];
+            power[1] += 2 * (n[0] * n[1] + 3 * n[2] * n[3]);
+            power[2] += 2 * (n[0] * n[2] + 2 * n[1] * n[3]);
+            power[3] += 2 * (n[0] * n[3] + n[1] * n[2]);
+        }
+        waveIs(four, new int[] {1, 0, 0}, c[0], c[1], c[2], c[3], s[0], s[1], s[2], s[3], power[0], power[1], power[2], power[3]);
         CrystalHouse many = houseOf(SQUARE, CUBE);
         for (int i = 0; i < 6; i++) {
             many.atom(0, 99, Due.place(1, 2, 3 + i));
@@ -477,6 +495,8 @@ public final class ModelBoundariesTest {
             DUE.is("the powers of line " + k, house.line(0, 3, k, 2), 16L * counts[k]);
         }
         // Lines are of the atoms that there are: one more changes them, a refused one doesn't.
+        DUE.is("lines within 1 of one", house.lines(0, 1), 3);
+        DUE.is("the last Q of one", house.line(0, 1, 2, 0), 48);
         house.atom(0, -1, Due.place(12, 12, 12));
         DUE.is("lines within 1 of two that cancel", house.lines(0, 1), 2);
         DUE.is("the first Q", house.line(0, 1, 0, 0), 16);
@@ -506,6 +526,54 @@ public final class ModelBoundariesTest {
         }
         // Of the 24 h within 2 whose second number is 0, of no others, each is (4 24 99)^2: all are more than an int holds.
         DUE.is("their sum", all, 24 * 9504L * 9504L);
+    }
+
+    private static void linesOfNewAtoms() {
+        DUE.sentence("how many h, the sum of their POWERS.");
+        int[] six = {4, 9, 16, 1, 2, 3};
+        CrystalHouse house = houseOf(six);
+        house.atom(0, 3, Due.place(1, 2, 5));
+        house.atom(0, 7, 0);
+        linesAreOfAmplitudes(house, six);
+        house.atom(0, -5, Due.place(3, 1, 13));
+        linesAreOfAmplitudes(house, six);
+        CrystalHouse fewer = houseOf(SQUARE);
+        fewer.atom(0, 3, Due.place(1, 2, 5));
+        fewer.atom(0, 2, 0);
+        linesAreOfAmplitudes(fewer, SQUARE);
+        fewer.atom(0, -3, Due.place(13, 14, 17));
+        linesAreOfAmplitudes(fewer, SQUARE);
+    }
+
+    /** The lines within 1, by asking for the power of each h. */
+    private static void linesAreOfAmplitudes(CrystalHouse house, int[] six) {
+        TreeMap<Long, long[]> due = new TreeMap<>();
+        for (int h = -1; h <= 1; h++) {
+            for (int k = -1; k <= 1; k++) {
+                for (int l = -1; l <= 1; l++) {
+                    long[] power = new long[4];
+                    for (int what = 0; what < 4; what++) {
+                        power[what] = house.amplitude(0, h, k, l, 8 + what);
+                    }
+                    boolean some = power[0] != 0 || power[1] != 0 || power[2] != 0 || power[3] != 0;
+                    if (some && (h != 0 || k != 0 || l != 0)) {
+                        long[] row = due.computeIfAbsent(q(six, h, k, l), q -> new long[] {q, 0, 0, 0, 0, 0});
+                        row[1]++;
+                        for (int what = 0; what < 4; what++) {
+                            row[2 + what] += power[what];
+                        }
+                    }
+                }
+            }
+        }
+        DUE.is("lines within 1", house.lines(0, 1), due.size());
+        int at = 0;
+        for (long[] row : due.values()) {
+            for (int what = 0; what < 6; what++) {
+                DUE.is("line(0, 1, " + at + ", " + what + ")", house.line(0, 1, at, what), row[what]);
+            }
+            at++;
+        }
     }
 
     private static void mapModulo() {

@@ -388,6 +388,15 @@ public final class OperationBoundariesTest {
         bad("x,y,z-y-y  ", 3, 11);
         bad(" x,y,x+z+x ", 3, 11);
         bad("x+x,x,x", 3, 7);
+        // Each of the nine numbers alone is 2, or -2.
+        for (int i = 0; i < 9; i++) {
+            String[] rows = {"x", "y", "z"};
+            char letter = "xyz".charAt(i % 3);
+            rows[i / 3] = letter + "+" + letter + rows[i / 3].replace("" + letter, "").replaceAll("(.)", "+$1");
+            bad(String.join(",", rows), 3, String.join(",", rows).length());
+            String below = String.join(",", rows).replace(letter + "+" + letter, "-" + letter + "-" + letter);
+            bad(below, 3, below.length());
+        }
         good("x+x-x,y,z", "x,y,z");
         good("-x-x+x,y,z", "-x,y,z");
         good("x,x+y-x,z+x+x-x", "x,y,x+z");

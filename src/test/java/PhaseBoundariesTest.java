@@ -1,6 +1,6 @@
 import java.math.BigInteger;
 
-/** Each sentence about phases (Terms 6, promises 33 and 34) at its boundaries. */
+/** Each sentence about phases (Terms 6, promises 33 and 34) at its boundaries, and a house that is used for 512 calls. */
 public final class PhaseBoundariesTest {
     private static final int NONE = CrystalHouse.NONE;
     private static final long MOST = 100_000_000L;
@@ -18,6 +18,7 @@ public final class PhaseBoundariesTest {
         phaseRefused();
         above();
         aboveNone();
+        allCalls();
         DUE.close("phases hold at their boundaries");
     }
 
@@ -40,6 +41,19 @@ public final class PhaseBoundariesTest {
         aboveIs(house, 39, 39, 2);
         aboveIs(house, 40, 0, 0);
         DUE.is("how many", house.above(0, 2), 1);
+        // Of 40 shares, whose levels are on a curve upwards: all are on the hull, and of one less all but one.
+        CrystalHouse shares = new CrystalHouse();
+        CrystalHouse raised = new CrystalHouse();
+        for (int i = 0; i < 40; i++) {
+            shares.phase(99 - i, i, 99 * i * i);
+            raised.phase(99 - i, i, 99 * i * i + (i == 20 ? 99 * 2 : 0));
+        }
+        for (int i = 0; i < 40; i++) {
+            aboveIs(shares, i, 0, 1);
+            aboveIs(raised, i, i == 20 ? 1 : 0, 1);
+        }
+        DUE.is("how many of 40 shares", shares.above(0, 2), 40);
+        DUE.is("how many, one raised", raised.above(0, 2), 39);
     }
 
     private static void counts() {
@@ -287,5 +301,37 @@ public final class PhaseBoundariesTest {
         }
         aboveIs(house, 1, 1, 2);
         aboveIs(new CrystalHouse(), 0, 0, 0);
+    }
+
+    /** A house that is filled with all that it can hold, and still answers at the 512th call. */
+    private static void allCalls() {
+        DUE.sentence("An object is used for at most 512 calls after it has been made; what later calls answer is free.");
+        CrystalHouse house = new CrystalHouse();
+        int calls = 0;
+        for (int i = 0; i < 40; i++) {
+            DUE.is("operation " + i, house.operation(3198, i), i);
+            DUE.is("cell " + i, house.cell(100 + i, 100, 100, 0, 0, 0), i);
+            DUE.is("phase " + i, house.phase(99 - i, i, i * i), i);
+            calls += 3;
+        }
+        DUE.is("group 0", house.group(), 0);
+        calls++;
+        for (int i = 0; i < 40; i++) {
+            house.choose(i);
+            DUE.is("group " + (i + 1), house.group(), i + 1);
+            calls += 2;
+        }
+        for (int i = 0; i < 20; i++) {
+            DUE.is("model " + i, house.model(0, i), i);
+            calls++;
+        }
+        for (int i = 0; calls < 508; i++) {
+            DUE.is("atom " + i / 20, house.atom(i % 20, 1 + i % 20, i / 20), i / 20 + 1);
+            calls++;
+        }
+        DUE.is("call 509", house.lines(19, 1), 5);
+        DUE.is("call 510", house.about(40, 4), 2);
+        DUE.is("call 511", house.reduced(39, 2), 139);
+        DUE.is("call 512", house.placed(19, 0, 1), 20);
     }
 }

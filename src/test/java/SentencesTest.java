@@ -7,7 +7,7 @@ import java.util.List;
 import java.util.regex.Matcher;
 import java.util.regex.Pattern;
 
-/** Each sentence of the document's Terms and promises is one that a boundary test names, and what they name stands there once. */
+/** Each sentence of the document's Terms and promises (and that of 512 calls) is one that a boundary test names, and what they name stands there once. */
 public final class SentencesTest {
     private static final Due DUE = new Due();
     private static final Path DOCUMENT = Path.of("../shared/DOC.md");
@@ -38,13 +38,17 @@ public final class SentencesTest {
         DUE.close(named.size() + " tests name all " + count + " sentences");
     }
 
-    /** Terms and promises in one line. */
+    /** The sentence of 512 calls, Terms and promises in one line. */
     private static String plain(String document) {
-        int from = document.indexOf("## Terms");
-        int to = document.indexOf("## Not promised");
-        String part = document.substring(Math.max(from, 0), to < 0 ? document.length() : to);
+        String part = between(document, "An object is used", "## The public face") + between(document, "## Terms", "## Not promised");
         String headless = part.replaceAll("(?m)^```.*$", " ").replaceAll("(?m)^(## .*)$", "$1. ");
         return headless.replaceAll("\\s+", " ").trim();
+    }
+
+    private static String between(String document, String first, String last) {
+        int from = document.indexOf(first);
+        int to = document.indexOf(last);
+        return from < 0 || to < from ? "" : document.substring(from, to);
     }
 
     private static boolean isHeading(String sentence) {
